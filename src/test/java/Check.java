@@ -1,0 +1,102 @@
+/** What the tests share: counting answers that are not as due, and bringing texts to a house. */
+final class Check {
+    private static int wrong = 0;
+    private static int asked = 0;
+
+    private Check() {
+    }
+
+    static void due(String call, long got, long want) {
+        asked++;
+        if (got != want) {
+            wrong++;
+            System.out.println(call + " answered " + got + ", due is " + want);
+        }
+    }
+
+    static void due(String call, boolean got, boolean want) {
+        due(call, got ? 1 : 0, want ? 1 : 0);
+    }
+
+    /** A call that must answer NONE, with the STATUS behind it. */
+    static void refused(IvyHouse x, String call, long got, int status) {
+        due(call, got, IvyHouse.NONE);
+        due("status() behind " + call, x.status(), status);
+    }
+
+    static void refused(IvyHouse x, String call, boolean got, int status) {
+        due(call, got, false);
+        due("status() behind " + call, x.status(), status);
+    }
+
+    /** A call that must answer this, with STATUS 0. */
+    static void fine(IvyHouse x, String call, long got, long want) {
+        due(call, got, want);
+        due("status() behind " + call, x.status(), 0);
+    }
+
+    static void fine(IvyHouse x, String call, boolean got) {
+        due(call, got, true);
+        due("status() behind " + call, x.status(), 0);
+    }
+
+    static void fraction(IvyHouse x, String call, boolean got, long top, long bottom) {
+        fine(x, call, got);
+        due("top() behind " + call, x.top(), top);
+        due("bottom() behind " + call, x.bottom(), bottom);
+    }
+
+    static void feed(IvyHouse x, String text) {
+        int[] bytes = new int[(text.length() + 19) / 20 * 20];
+        for (int i = 0; i < text.length(); i++) {
+            bytes[i] = text.charAt(i);
+        }
+        for (int i = 0; i < bytes.length; i += 20) {
+            x.feed(four(bytes, i), four(bytes, i + 4), four(bytes, i + 8), four(bytes, i + 12), four(bytes, i + 16));
+        }
+    }
+
+    private static int four(int[] bytes, int at) {
+        return bytes[at] << 24 | bytes[at + 1] << 16 | bytes[at + 2] << 8 | bytes[at + 3];
+    }
+
+    static int house(IvyHouse x, String text) {
+        feed(x, text);
+        return x.house(text.length());
+    }
+
+    static int times(IvyHouse x, String text) {
+        feed(x, text);
+        return x.times(text.length());
+    }
+
+    static IvyHouse housed(String text) {
+        IvyHouse x = new IvyHouse();
+        int debts = house(x, text);
+        if (debts < 0) {
+            wrong++;
+            System.out.println("fault " + x.fault(0) + " at " + x.fault(1) + " of " + text);
+        }
+        return x;
+    }
+
+    static void houseFault(String text, int kind, int place) {
+        IvyHouse x = new IvyHouse();
+        refused(x, "house of '" + text + "'", house(x, text), 9);
+        due("fault(0) of '" + text + "'", x.fault(0), kind);
+        due("fault(1) of '" + text + "'", x.fault(1), place);
+    }
+
+    static void timesFault(IvyHouse x, String text, int kind, int place) {
+        refused(x, "times of '" + text + "'", times(x, text), 9);
+        due("fault(0) of '" + text + "'", x.fault(0), kind);
+        due("fault(1) of '" + text + "'", x.fault(1), place);
+    }
+
+    static void end() {
+        System.out.println(asked + " answers looked at, " + wrong + " not as due");
+        if (wrong != 0 || asked == 0) {
+            System.exit(1);
+        }
+    }
+}
