@@ -1512,7 +1512,8 @@ public final class IvyHouse {
                 boolean grew = growLeaves();
                 boolean wore = wearMortar();
                 changes = grew || wore;
-                if (changes) {
+                // leaves that only grew hold no less than they did
+                if (wore) {
                     settle();
                 }
             }
@@ -1521,18 +1522,25 @@ public final class IvyHouse {
         private boolean growLeaves() {
             boolean changed = false;
             for (int d = 0; d < debts; d++) {
-                int then = has(paid, d) ? leaves[d] : growth(sum[d], leaves[d], rate[d], has(compound, d));
-                changed |= then != leaves[d];
-                leaves[d] = then;
+                int before = leaves[d];
+                if (rate[d] > 0 && before < MOST_LEAVES && !has(paid, d)) {
+                    leaves[d] = growth(sum[d], before, rate[d], has(compound, d));
+                    changed |= leaves[d] != before;
+                }
             }
             return changed;
         }
 
         private boolean wearMortar() {
+            int covered = 0;
+            for (int d = 0; d < debts; d++) {
+                if (!has(paid, d) && leaves[d] > 0) {
+                    covered |= 1 << at[d];
+                }
+            }
             boolean changed = false;
-            gatherLeaves(0);
             for (int s = 0; s < stones; s++) {
-                if (leavesAt[s] > 0 && mortar[s] > 0) {
+                if (has(covered, s) && mortar[s] > 0) {
                     mortar[s]--;
                     changed = true;
                 }
