@@ -17,6 +17,9 @@ public final class ModelTest {
         for (int run = 0; run < 40000; run++) {
             oneText();
         }
+        for (int run = 0; run < 400; run++) {
+            oneRichChain(run);
+        }
         Check.end();
     }
 
@@ -168,6 +171,27 @@ public final class ModelTest {
                 Check.due("give(" + p + ", " + cash + ")", x.give(p, cash), m.people.get(p).cash);
             }
         }
+    }
+
+    private static void oneRichChain(int run) {
+        StringBuilder t = new StringBuilder("stone mortar 9 weight 9;stone mortar 0 weight 2;");
+        for (int p = 0; p < 3; p++) {
+            t.append("person ").append(NAMES[p]).append(" cash ").append(any(150)).append(';');
+        }
+        for (int i = 3 + any(4); i > 0; i--) {
+            int p = any(3);
+            t.append("debt ").append(NAMES[p]).append(' ').append(NAMES[(p + 1 + any(2)) % 3]);
+            t.append(" sum ").append(1 + any(99)).append(" rate 0 at ").append(any(2)).append(" leaves ").append(any(100)).append(';');
+        }
+        IvyHouse x = new IvyHouse();
+        Model m = new Model();
+        compareHouse(x, m, t.toString());
+        Model.Person rich = m.people.get(any(3));
+        for (int i = 0; i < 10; i++) {
+            rich.cash = Math.min(9999, rich.cash + 985);
+            x.give(m.people.indexOf(rich), 985);
+        }
+        compareChains(x, m, "rich run " + run + " of " + t);
     }
 
     private static Model change(IvyHouse x, Model m, List<Model> marks) {
@@ -361,13 +385,7 @@ public final class ModelTest {
         for (int s = 0; s < m.stones.size(); s++) {
             compareStone(x, m, s, where);
         }
-        for (int what = 0; what < 2; what++) {
-            List<Integer> row = m.chain(what == 1);
-            Check.due(where + " chain(" + what + ")", x.chain(what), row.size());
-            for (int k = 0; k < row.size(); k++) {
-                Check.due(where + " chainAt(" + what + ", " + k + ")", x.chainAt(what, k), row.get(k));
-            }
-        }
+        compareChains(x, m, where);
         int number = 0;
         for (int i = 0; i < m.debts.size(); i++) {
             number += (set >> i & 1) != 0 ? m.debts.get(i).owed() : 0;
@@ -391,6 +409,16 @@ public final class ModelTest {
         Check.due(where + " standsIn(" + ahead + ")", x.standsIn(ahead), later.standing());
         for (int i = 0; i < m.debts.size(); i++) {
             Check.due(where + " owedIn(" + i + ", " + ahead + ")", x.owedIn(i, ahead), later.debts.get(i).owed());
+        }
+    }
+
+    private static void compareChains(IvyHouse x, Model m, String where) {
+        for (int what = 0; what < 2; what++) {
+            List<Integer> row = m.chain(what == 1);
+            Check.due(where + " chain(" + what + ")", x.chain(what), row.size());
+            for (int k = 0; k < row.size(); k++) {
+                Check.due(where + " chainAt(" + what + ", " + k + ")", x.chainAt(what, k), row.get(k));
+            }
         }
     }
 

@@ -106,6 +106,8 @@ public final class OddsTest {
         x.tray(0, 0, 1);
         Check.refused(x, "copyOwed(0)", x.copyOwed(0), 3);
         Check.due("read(0, 0)", x.read(0, 0), 0);
+        x.tray(0, 3, 2);
+        Check.fine(x, "copyOwed(0) of just enough", x.copyOwed(0), 2);
         x.tray(0, 0, 3);
         x.write(0, 2, 77);
         Check.fine(x, "copyOwed(0)", x.copyOwed(0), 2);

@@ -1,9 +1,17 @@
+import java.util.ArrayList;
+import java.util.Collections;
+import java.util.HashMap;
+import java.util.List;
+import java.util.Map;
+import java.util.Random;
+
 /** Promises 41 to 43: fits, fitsAt, ask. */
 public final class RatesTest {
     public static void main(String[] args) {
         fits();
         mostLeaves();
         asks();
+        plainly();
         refused();
         Check.end();
     }
@@ -50,6 +58,65 @@ public final class RatesTest {
         Check.fine(twosOf0(), "ask(1, 2, 0)", twosOf0().ask(1, 2, 0), 1);
         // rate 0 is one for simple and compound in every YEAR
         Check.fine(x, "ask(99, 2, 0)", x.ask(99, 2, 0), 1);
+    }
+
+    private static int grown(int sum, int number, int years) {
+        int leaves = 0;
+        for (int y = 0; y < years; y++) {
+            leaves = Math.min(999, leaves + (number % 2 == 1 ? sum + leaves : sum) * (number / 2) / 20);
+        }
+        return leaves;
+    }
+
+    private static int plainAsk(int sum, List<Integer> fits) {
+        int best = -1;
+        int fewest = Integer.MAX_VALUE;
+        for (int years = 1; years <= 20; years++) {
+            Map<Integer, Integer> alike = new HashMap<>();
+            for (int number : fits) {
+                alike.merge(grown(sum, number, years), 1, Integer::sum);
+            }
+            int most = Collections.max(alike.values());
+            if (most < fewest) {
+                fewest = most;
+                best = years;
+            }
+        }
+        return best;
+    }
+
+    /** Twos that some rate made, for all sums, compared with the plainest search. */
+    private static void plainly() {
+        Random random = new Random(7);
+        for (int run = 0; run < 3000; run++) {
+            int sum = 1 + random.nextInt(99);
+            int n = 1 + random.nextInt(3);
+            int made = random.nextInt(20);
+            long[] numbers = new long[2 * n];
+            for (int i = 0; i < n; i++) {
+                numbers[2 * i] = random.nextInt(random.nextBoolean() ? 41 : 6);
+                numbers[2 * i + 1] = grown(sum, made, (int) numbers[2 * i]);
+            }
+            List<Integer> fits = new ArrayList<>();
+            for (int number = 0; number < 20; number++) {
+                boolean all = true;
+                for (int i = 0; i < n; i++) {
+                    all &= grown(sum, number, (int) numbers[2 * i]) == numbers[2 * i + 1];
+                }
+                if (all) {
+                    fits.add(number);
+                }
+            }
+            IvyHouse x = twos(1, numbers);
+            Check.fine(x, "fits(" + sum + ", 2, " + n + ")", x.fits(sum, 2, n), fits.size());
+            for (int k = 0; k < fits.size(); k++) {
+                Check.fine(x, "fitsAt(" + sum + ", 2, " + n + ", " + k + ")", x.fitsAt(sum, 2, n, k), fits.get(k));
+            }
+            Check.refused(x, "fitsAt behind the last", x.fitsAt(sum, 2, n, fits.size()), 6);
+            int want = fits.size() < 2 ? -1 : plainAsk(sum, fits);
+            Check.due("ask(" + sum + ", 2, " + n + ") of " + fits, x.ask(sum, 2, n), want);
+            Check.due("status()", x.status(), fits.size() < 2 ? 6 : 0);
+        }
     }
 
     private static IvyHouse twosOf0() {

@@ -21,7 +21,9 @@ public final class TraysTest {
         Check.fine(x, "read(3, 59)", x.read(3, 59), 7);
         Check.refused(x, "tray(3, 4, 1)", x.tray(3, 4, 1), 1);
         Check.fine(x, "read(3, 59) still", x.read(3, 59), 7);
+        x.write(3, 0, 8);
         Check.fine(x, "tray(3, 1, 60) anew", x.tray(3, 1, 60));
+        Check.fine(x, "read(3, 0) anew", x.read(3, 0), 0);
         Check.fine(x, "read(3, 59) anew", x.read(3, 59), 0);
         Check.fine(x, "tray(3, 1, 5)", x.tray(3, 1, 5));
         Check.refused(x, "read(3, 5)", x.read(3, 5), 3);
