@@ -1420,7 +1420,7 @@ public final class IvyHouse {
             lender[debts] = second;
             sum[debts] = itsSum;
             rate[debts] = itsRate;
-            compound = isCompound ? compound | 1 << debts : compound & ~(1 << debts);
+            compound |= isCompound ? 1 << debts : 0;
             at[debts] = stone;
             leaves[debts] = 0;
             debts++;
@@ -1913,8 +1913,6 @@ public final class IvyHouse {
         private final int[] row = new int[MOST_DEBTS];
         private final int[] cash = new int[MOST_PEOPLE];
         private final boolean[] seen = new boolean[DEBT_SETS];
-        /** The cash of all people with which a set of debts was paid before. */
-        private final int[] seenCash = new int[DEBT_SETS * MOST_PEOPLE];
         private boolean firm;
         private int goal;
 
@@ -1929,12 +1927,16 @@ public final class IvyHouse {
             extend(house, 0, 0);
         }
 
-        /** Rows are come to in their order, so the first of the longest ones stays. */
+        /**
+         * Rows are come to in their order, so the first of the longest ones stays. A row that pays the same debts
+         * as an earlier one can be gone on with no further: all have the same cash by it, but for one whose cash
+         * went beyond its most, and he can pay all that seven debts may come to.
+         */
         private void extend(House house, int many, int set) {
-            if (isNoBetter(house, set)) {
+            if (seen[set]) {
                 return;
             }
-            remember(house, set);
+            seen[set] = true;
             if (firm && house.fallingWithout(set) != 0) {
                 return;
             }
@@ -1958,29 +1960,6 @@ public final class IvyHouse {
                     cash[lender] = had;
                     cash[ower] += much;
                 }
-            }
-        }
-
-        /**
-         * An earlier row that paid the same debts and left nobody less can be gone on with
-         * just as far. (Rows differ in what they leave only where cash went beyond its most.)
-         */
-        private boolean isNoBetter(House house, int set) {
-            if (!seen[set]) {
-                return false;
-            }
-            for (int p = 0; p < house.people; p++) {
-                if (cash[p] > seenCash[set * MOST_PEOPLE + p]) {
-                    return false;
-                }
-            }
-            return true;
-        }
-
-        private void remember(House house, int set) {
-            seen[set] = true;
-            for (int p = 0; p < house.people; p++) {
-                seenCash[set * MOST_PEOPLE + p] = cash[p];
             }
         }
     }
