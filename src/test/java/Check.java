@@ -1,16 +1,53 @@
+import java.util.List;
+
 /** What the tests share: counting answers that are not as due, and bringing texts to a house. */
 final class Check {
     private static int wrong = 0;
     private static int asked = 0;
+    private static int askedBefore = 0;
+    private static String sentence = "";
 
     private Check() {
+    }
+
+    /** What is asked from here on is asked by this sentence of the document. */
+    static void sentence(String words) {
+        endSentence();
+        sentence = words;
+    }
+
+    private static void endSentence() {
+        if (!sentence.isEmpty() && asked == askedBefore) {
+            wrong++;
+            System.out.println("nothing was asked by: " + sentence);
+        }
+        askedBefore = asked;
+        sentence = "";
+    }
+
+    private static void tell(String what) {
+        wrong++;
+        System.out.println(what + (sentence.isEmpty() ? "" : ", by: " + sentence));
     }
 
     static void due(String call, long got, long want) {
         asked++;
         if (got != want) {
-            wrong++;
-            System.out.println(call + " answered " + got + ", due is " + want);
+            tell(call + " answered " + got + ", due is " + want);
+        }
+    }
+
+    /** Two rows of answers that must be one; the first that differs is told. */
+    static void same(String what, List<String> got, List<String> want) {
+        asked++;
+        int i = 0;
+        while (i < got.size() && i < want.size() && got.get(i).equals(want.get(i))) {
+            i++;
+        }
+        if (i < got.size() || i < want.size()) {
+            String one = i < got.size() ? got.get(i) : "nothing more";
+            String other = i < want.size() ? want.get(i) : "nothing more";
+            tell(what + ": " + one + ", due is: " + other);
         }
     }
 
@@ -74,8 +111,7 @@ final class Check {
         IvyHouse x = new IvyHouse();
         int debts = house(x, text);
         if (debts < 0) {
-            wrong++;
-            System.out.println("fault " + x.fault(0) + " at " + x.fault(1) + " of " + text);
+            tell("fault " + x.fault(0) + " at " + x.fault(1) + " of " + text);
         }
         return x;
     }
@@ -94,6 +130,7 @@ final class Check {
     }
 
     static void end() {
+        endSentence();
         System.out.println(asked + " answers looked at, " + wrong + " not as due");
         if (wrong != 0 || asked == 0) {
             System.exit(1);
