@@ -135,7 +135,10 @@ public final class EdgeAheadTest {
         Check.sentence("MOST: the most DEBTS that are not PAID of which LEAVES could be gone all at once so that no STONE FALLS");
         NEW.quiet(0, "most").quiet(0, "mostSet");
         Edge.of(TWO).quiet(0, "most").quiet(0, "mostSet");
-        Edge.of(IDLE).quiet(7, "most").quiet(127, "mostSet");
+        Check.sentence("MOST: how many");
+        Edge.of(IDLE).quiet(7, "most");
+        Check.sentence("MOST: the set");
+        Edge.of(IDLE).quiet(127, "mostSet");
         new Edge(() -> {
             IvyHouse x = Check.housed(IDLE);
             x.pay(0);

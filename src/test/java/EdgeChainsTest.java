@@ -173,6 +173,7 @@ public final class EdgeChainsTest {
         RICH.fraction(1, 1, "oddsThat", 121, 0).fraction(1, 1, "oddsThat", 60, 3).fraction(0, 1, "oddsThat", 60, 2);
         RICH.fraction(0, 1, "oddsThat", 121, 4).fraction(0, 1, "oddsThat", 0, 4).refused(6, "oddsThat", 3, 4);
         NEW.refused(1, "oddsThat", 0, 0).refused(1, "oddsThat", 1, 0);
+        Check.sentence("ODDS THAT a DEBT is of them: in how many of these sets it is, by all of them");
         Edge seven = Edge.of(alike(7, 10));
         for (int debt = 0; debt < 7; debt++) {
             seven.fraction(0, 1, "oddsThat", 0, debt).fraction(1, 1, "oddsThat", 70, debt);

@@ -163,6 +163,13 @@ public final class EdgeDoneTest {
     }
 
     private static void mends() {
+        Check.sentence("MEND: MORTAR of a STONE that has not FALLEN is 1 more");
+        for (int mortar = 1; mortar <= 8; mortar++) {
+            IvyHouse one = Check.housed("stone mortar " + mortar + " weight 1;" + STONE);
+            Check.fine(one, "mend(0)", one.mend(0), mortar + 1);
+            Check.fine(one, "stone(0, 0)", one.stone(0, 0), mortar + 1);
+            Check.fine(one, "the other's MORTAR", one.stone(1, 0), 1);
+        }
         Check.sentence("MEND: MORTAR then (1; 7: it has FALLEN, has 9)");
         RICH.refused(1, "mend", -1).refused(1, "mend", 4).refused(1, "mend", Integer.MIN_VALUE).refused(1, "mend", Integer.MAX_VALUE);
         RICH.fine(6, "mend", 0).fine(5, "mend", 1).fine(1, "mend", 2).refused(7, "mend", 3);
@@ -187,6 +194,7 @@ public final class EdgeDoneTest {
         three.limits(2, 1, 99, "lend", 0, 1, 1, 1, false, 0).limits(3, 0, 9, "lend", 0, 1, 1, 1, true, 0);
         three.limits(5, 0, 2, "lend", 0, 1, 1, 1, false, 0).limits(0, 0, 2, "lend", 0, 1, 1, 1, false, 0);
         three.refused(1, "lend", 0, 3, 1, 1, false, 0).refused(1, "lend", 0, -1, 1, 1, false, 0);
+        Check.sentence("one and himself where two must be");
         for (int p = 0; p < 3; p++) {
             three.refused(1, "lend", p, p, 1, 1, false, 0);
         }

@@ -34,6 +34,10 @@ public final class EdgeGamesTest {
     }
 
     private static void game() {
+        Check.sentence("GAME (1)");
+        for (int n : new int[] {Integer.MIN_VALUE, -1, 5, Integer.MAX_VALUE}) {
+            RICH.refused(1, "game", n);
+        }
         Check.sentence("GAME of n turns (0 to 4)");
         RICH.limits(0, 0, 4, "game", 1);
         NEW.refused(1, "game", 5).refused(1, "game", -1);

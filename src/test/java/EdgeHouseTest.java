@@ -21,6 +21,8 @@ public final class EdgeHouseTest {
         leastKind();
         told();
         oneTooMany();
+        numbered();
+        noSuchNumber();
         taken();
         fallsAtOnce();
         Check.end();
@@ -253,6 +255,36 @@ public final class EdgeHouseTest {
         Check.due("told(1)", Check.housed(STONE.repeat(8) + TWO + DEBT).told(1), 2);
         Check.due("told(0)", Check.housed(FIVE + STONE).told(0), 1);
         Check.due("told(0)", Check.housed(STONE + TWO + DEBT.repeat(7) + STONE).told(0), 2);
+    }
+
+    private static void numbered() {
+        Check.sentence("All are numbered as they stand; who is named must be told ahead");
+        IvyHouse x = Check.housed("person e cash 5;stone mortar 2 weight 1;person d cash 4;debt e d sum 7 rate 1 at 0;"
+                + "stone mortar 3 weight 1 on 0;person c cash 3;debt c e sum 8 rate 1 at 1;stone mortar 4 weight 1;person a cash 1;"
+                + "debt d a sum 9 rate 1 at 2;");
+        int[] cash = {5, 4, 3, 1};
+        int[][] debts = {{0, 1, 7, 0}, {2, 0, 8, 1}, {1, 3, 9, 2}};
+        for (int p = 0; p < 4; p++) {
+            Check.fine(x, "cash(" + p + ")", x.cash(p), cash[p]);
+        }
+        for (int i = 0; i < 3; i++) {
+            Check.fine(x, "MORTAR of " + i, x.stone(i, 0), 2 + i);
+            Check.fine(x, "who OWES " + i, x.debt(i, 0), debts[i][0]);
+            Check.fine(x, "to whom " + i, x.debt(i, 1), debts[i][1]);
+            Check.fine(x, "SUM of " + i, x.debt(i, 2), debts[i][2]);
+            Check.fine(x, "STONE of " + i, x.debt(i, 5), debts[i][3]);
+        }
+        Check.houseFault(STONE + "person p cash 1;debt p q sum 1 rate 1 at 0;person q cash 1;", 3, STONE.length() + 23);
+        Check.houseFault(STONE + "debt p q sum 1 rate 1 at 0;" + TWO, 3, STONE.length() + 5);
+    }
+
+    private static void noSuchNumber() {
+        Check.sentence("4 a NUMBER that can't be (no such STONE told ahead, too)");
+        for (int stones = 0; stones < 8; stones++) {
+            String ahead = STONE.repeat(stones) + TWO;
+            Check.houseFault(ahead + "debt p q sum 1 rate 1 at " + stones + ";" + STONE, 4, ahead.length() + 25);
+            Check.houseFault(ahead + "stone mortar 1 weight 1 on " + stones + ";" + STONE, 4, ahead.length() + 27);
+        }
     }
 
     private static void taken() {

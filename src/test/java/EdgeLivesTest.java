@@ -17,6 +17,7 @@ public final class EdgeLivesTest {
         missedMend();
         missedYear();
         missedAny();
+        bothFirst();
         tests();
         testsOfNoDebt();
         gives();
@@ -191,6 +192,29 @@ public final class EdgeLivesTest {
         x = lives("odds 16;person p cash 0;", "any;any;", 2, 0);
         Check.due("told(4)", x.told(4), 0);
         Check.due("cash(0)", x.cash(0), 40);
+    }
+
+    private static void bothFirst() {
+        Check.sentence("any: a PERSON by a draw by how many there are, a draw by 16 (both first)");
+        // one that is MISSED in the last YEAR has drawn twice, too: whose WINDFALLS come behind it shows it
+        for (int seed = 0; seed < 30; seed++) {
+            IvyHouse x = Houses.lateYear("odds 8;person a cash 0;person b cash 0;person c cash 0;");
+            x.year(1);
+            Check.times(x, "loop 9;any;end;");
+            x.live(seed);
+            int[] cash = new int[3];
+            int missed = 0;
+            for (int i = 0; i < 9; i++) {
+                boolean wins = drawn(seed, 2 * i + 2) % 16 < 8;
+                cash[drawn(seed, 2 * i + 1) % 3] += wins ? 20 : 0;
+                missed += wins ? 0 : 1;
+            }
+            for (int p = 0; p < 3; p++) {
+                Check.due("cash(" + p + ") by seed " + seed, x.cash(p), cash[p]);
+            }
+            Check.due("lived(0) by seed " + seed, x.lived(0), missed);
+            Check.due("lived(1) by seed " + seed, x.lived(1), 0);
+        }
     }
 
     private static boolean isSo(String house, String before, String test) {

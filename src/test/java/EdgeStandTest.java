@@ -12,6 +12,8 @@ public final class EdgeStandTest {
         wears();
         inThisOrder();
         told();
+        toldFirst();
+        owed();
         stone();
         debt();
         cash();
@@ -235,6 +237,47 @@ public final class EdgeStandTest {
         Check.fine(x, "told(9)", x.told(9), 5994);
     }
 
+    private static void toldFirst() {
+        Check.sentence("How many STONES (what 0), PEOPLE (1), DEBTS (2); ODDS (3); the YEAR (4); the set of STONES that STAND (1 for STONE 0 ..) (5), "
+                + "of DEBTS that are PAID (1 for DEBT 0 ..) (6)");
+        // one more of each is one more told, whatever it is
+        for (int many = 0; many <= 5; many++) {
+            StringBuilder text = new StringBuilder("odds " + many + ";" + Houses.STONE + TWO);
+            for (int i = 0; i < many; i++) {
+                text.append(i % 2 == 0 ? "stone mortar 9 weight 9;" : "stone mortar 8 weight 9;").append(debtAt(0, 0));
+                text.append(i < 3 ? "person " + "abc".charAt(i) + " cash 0;" : "");
+            }
+            IvyHouse x = Check.housed(text.toString());
+            if (many > 0) {
+                x.year(many);
+                x.pay(many - 1);
+            }
+            int stand = 1;
+            for (int i = 0; i < many; i += 2) {
+                stand |= 2 << i;
+            }
+            int[] want = {many + 1, 2 + Math.min(3, many), many, many, many, stand, many == 0 ? 0 : 1 << many - 1};
+            for (int what = 0; what < want.length; what++) {
+                Check.fine(x, "told(" + what + ") of " + many, x.told(what), want[what]);
+            }
+        }
+    }
+
+    private static void owed() {
+        Check.sentence("OWED is SUM and LEAVES of a DEBT together (0 if it is PAID)");
+        int[][] sums = {{1, 0}, {1, 99}, {99, 0}, {99, 99}, {50, 1}};
+        for (int[] s : sums) {
+            IvyHouse x = Check.housed("stone mortar 9 weight 1;person p cash 999;person q cash 0;debt p q sum " + s[0] + " rate 0 at 0 leaves " + s[1] + ";");
+            Check.fine(x, "debt(0, 7)", x.debt(0, 7), s[0] + s[1]);
+            Check.fine(x, "told(8)", x.told(8), s[0] + s[1]);
+            Check.fine(x, "pay(0)", x.pay(0), s[0] + s[1]);
+            Check.fine(x, "debt(0, 7) that is PAID", x.debt(0, 7), 0);
+            Check.fine(x, "debt(0, 2) that is PAID", x.debt(0, 2), s[0]);
+            Check.fine(x, "debt(0, 6) that is PAID", x.debt(0, 6), s[1]);
+            Check.fine(x, "told(8) without it", x.told(8), 0);
+        }
+    }
+
     private static void stone() {
         Check.sentence("Of a STONE, what 0: MORTAR, 1: WEIGHT, 2: the set of STONES ON which it rests (1 for STONE 0 ..), 3: GRIP, 4: 1 if it "
                 + "STANDS, else 0 (1)");
@@ -277,6 +320,8 @@ public final class EdgeStandTest {
     }
 
     private static void net() {
+        Check.sentence("NET of a PERSON (1)");
+        new Edge(Houses::richly).taken("net", 1).taken("net", 2).refused(1, "net", 3).refused(1, "net", -1);
         Check.sentence("NET of a PERSON: CASH and all that is OWED to him, less all that he OWES");
         Edge rich = new Edge(Houses::richly);
         rich.quiet(54 - 21 - 60 + 26, "net", 0).quiet(61 + 21 - 14, "net", 1).quiet(30 + 14 + 60 - 26, "net", 2);
@@ -300,6 +345,7 @@ public final class EdgeStandTest {
         Edge.of(text.replace("#", "6")).quiet(17, "shorts");
         Edge.of(text.replace("#", "7")).quiet(1, "shorts");
         Edge.of(text.replace("#", "8")).quiet(1, "shorts");
+        Check.sentence("The set of PEOPLE who are SHORT (1 for PERSON 0 ..)");
         new Edge(IvyHouse::new).quiet(0, "shorts");
         new Edge(Houses::richly).quiet(1, "shorts");
         Edge.of(Houses.STONE + "person a cash 0;person b cash 0;person c cash 0;person d cash 0;person e cash 0;"
