@@ -68,6 +68,8 @@ public final class EdgeGamesTest {
         Check.sentence("(a DEBT, a STONE more than once, too)");
         games(Edge.of("stone mortar 1 weight 3;" + TWO + leaves(0, 10)), 1, 0, 0, 0, 1);
         games(Edge.of("stone mortar 0 weight 2;" + TWO + leaves(0, 5) + leaves(0, 5)), 1, 0, 1, 0, 1);
+        // the bailiff's second turn comes, whatever the mason does in his
+        games(Edge.of("stone mortar 0 weight 2;" + TWO + leaves(0, 10) + leaves(0, 10)), 1, 1, 1, 0, 1);
         // the same DEBT once more takes nothing
         games(Edge.of("stone mortar 0 weight 1;" + TWO + leaves(0, 5) + leaves(0, 9)), 1, 1, 1, 1, 1);
         Edge.of("stone mortar 0 weight 1;" + TWO + leaves(0, 9)).quiet(0, "moveOf", 3).quiet(1, "game", 3);
