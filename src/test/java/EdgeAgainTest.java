@@ -146,10 +146,10 @@ public final class EdgeAgainTest {
 
     private static void timesInARow() {
         Check.sentence("Likewise the TIMES: how many STEPS");
-        String[] texts = {"", "year 3;", "loop 4;year 1;year 2;end;", "when cash p>99;year 5;end;when cash p<99;year 7;end;",
+        String[] texts = {"", "year 3;", "loop 9;stop;end;", "loop 4;year 1;year 2;end;", "when cash p>99;year 5;end;when cash p<99;year 7;end;",
             "when stands 0;loop 2;when leaves 0=0;year 9;end;end;end;year 1;", "stop;year 11;"};
-        int[] years = {0, 3, 12, 5, 19, 0};
-        int[] steps = {0, 1, 3, 4, 5, 2};
+        int[] years = {0, 3, 0, 12, 5, 19, 0};
+        int[] steps = {0, 1, 2, 3, 4, 5, 2};
         for (int first = 0; first < texts.length; first++) {
             for (int second = 0; second < texts.length; second++) {
                 for (int third = 0; third < texts.length; third++) {

@@ -56,6 +56,8 @@ public final class EdgeGamesTest {
         games(Edge.of("stone mortar 0 weight 2;" + TWO + leaves(0, 10)), 1, 0, 0, 0, 1);
         games(Edge.of("stone mortar 0 weight 3;" + TWO + leaves(0, 15)), 1, 0, 0, 0, 0);
         games(Edge.of("stone mortar 9 weight 9;" + TWO + leaves(0, 99)), 1, 1, 1, 1, 1);
+        // one LEAF is enough to take, if all five are needed
+        games(Edge.of("stone mortar 0 weight 1;" + TWO + leaves(0, 1).repeat(5)), 1, 0, 1, 1, 1);
         // two of them: the mason can help one only, and the bailiff has the third turn
         games(Edge.of("stone mortar 0 weight 1;stone mortar 0 weight 1;" + TWO + leaves(0, 5) + leaves(1, 5)), 2, 1, 2, 1, 2);
         Check.sentence("how many STONES STAND in the end, looked at then alone, by best play (the first wants few)");
@@ -119,6 +121,9 @@ public final class EdgeGamesTest {
             // taking is as good as nothing, so the first that is not PAID is it, with LEAVES or without
             Edge.of("stone mortar 9 weight 1;" + TWO + leaves(0, 0) + leaves(0, 9)).quiet(0, "moveOf", n);
             Edge.of("stone mortar 0 weight 1;" + TWO + leaves(0, 9)).quiet(0, "moveOf", n);
+            // though all that can STAND does, whatever is taken
+            Edge.of("stone mortar 9 weight 1;".repeat(8) + TWO + leaves(0, 9)).quiet(0, "moveOf", n);
+            Edge.of("stone mortar 0 weight 1;".repeat(8) + TWO + leaves(7, 0)).quiet(0, "moveOf", n);
         }
         String two = "stone mortar 0 weight 1;stone mortar 0 weight 1;stone mortar 9 weight 1 on 1;" + TWO;
         Edge.of(two + leaves(0, 5) + leaves(1, 5)).quiet(1, "moveOf", 1).quiet(0, "moveOf", 2);
