@@ -1948,19 +1948,23 @@ public final class IvyHouse {
                 return;
             }
             for (int d = 0; d < house.debts && length < goal; d++) {
-                int ower = house.ower[d];
-                int much = house.owed(d);
-                if (!has(set | house.paid, d) && cash[ower] >= much) {
-                    int lender = house.lender[d];
-                    int had = cash[lender];
-                    cash[ower] -= much;
-                    cash[lender] = Math.min(MOST_CASH, had + much);
+                if (!has(set | house.paid, d) && cash[house.ower[d]] >= house.owed(d)) {
                     row[many] = d;
-                    extend(house, many + 1, set | 1 << d);
-                    cash[lender] = had;
-                    cash[ower] += much;
+                    extendBy(house, d, many, set);
                 }
             }
+        }
+
+        private void extendBy(House house, int debt, int many, int set) {
+            int ower = house.ower[debt];
+            int lender = house.lender[debt];
+            int had = cash[lender];
+            int much = house.owed(debt);
+            cash[ower] -= much;
+            cash[lender] = Math.min(MOST_CASH, had + much);
+            extend(house, many + 1, set | 1 << debt);
+            cash[lender] = had;
+            cash[ower] += much;
         }
     }
 
